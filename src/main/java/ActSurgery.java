@@ -492,25 +492,14 @@ public final class ActSurgery {
             return !has(z, at);
         }
 
+        /** All ARROWS go to greater PLACES here and there, so that those of one SHAPE are the same. */
         boolean hasShapeOf(Arrows that) {
-            for (int c = 0; c < size; c++) {
-                if (besideOf(c) != that.besideOf(c)) {
+            for (int p = 0; p < size; p++) {
+                if (parents[p] != that.parents[p]) {
                     return false;
                 }
             }
-            for (int c = 0; c < size; c++) {
-                for (int a = 0; a < size; a++) {
-                    if (unjoined(parents[c], a, besideOf(a)) != unjoined(that.parents[c], a, besideOf(a))) {
-                        return false;
-                    }
-                }
-            }
             return true;
-        }
-
-        /** If a is among these PARENTS: those of them that have no ARROW between a and them. */
-        static int unjoined(int set, int a, int besideA) {
-            return has(set, a) ? set & ~besideA & ~(1 << a) : 0;
         }
     }
 
@@ -722,11 +711,16 @@ public final class ActSurgery {
 
         private boolean meetsAlike(int p, int parentsThere) {
             for (int a = 0; a < size; a++) {
-                if (Arrows.unjoined(parentsNow[p], a, beside[a]) != Arrows.unjoined(parentsThere, a, beside[a])) {
+                if (unjoined(parentsNow[p], a) != unjoined(parentsThere, a)) {
                     return false;
                 }
             }
             return true;
+        }
+
+        /** If a is among these PARENTS: those of them that have no ARROW between a and them. */
+        private int unjoined(int set, int a) {
+            return has(set, a) ? set & ~beside[a] & ~(1 << a) : 0;
         }
 
         int howManySure() {
