@@ -204,6 +204,16 @@ public final class ShapeTest {
         x.weight(1, 0, 7);
         D.due("20 never 0, ODDS", x.alike(1), 1);
         D.due("20 SET to 0", x.alike(2), 0);
+        // The same by a PLACE in the midst: SET to the VALUE that it never has by itself, and to no other.
+        for (int value = 0; value < 2; value++) {
+            x = both(new int[] {0, 0, 2}, new int[] {0, 0, 2});
+            x.weight(1, 0, value == 0 ? 16 : 0);
+            x.keep();
+            D.due("20 kept", x.alike(2), 1);
+            x.weight(2, value << 1, 7);
+            D.due("20 never " + value + ", ODDS", x.alike(1), 1);
+            D.due("20 midst SET to " + value, x.alike(2), 0);
+        }
     }
 
     private static void seenAlike() {
