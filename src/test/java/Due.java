@@ -1,5 +1,11 @@
+import java.util.IdentityHashMap;
+import java.util.Map;
+import java.util.function.Supplier;
+import java.util.function.ToIntFunction;
+
 /** Counts the answers that are not the ones that are due. */
 final class Due {
+    private final Map<Supplier<ActSurgery>, String> untouched = new IdentityHashMap<>();
     private int asked;
     private int wrong;
 
@@ -11,6 +17,19 @@ final class Due {
                 System.out.println(call + " answered " + got + ", due is " + want);
             }
         }
+    }
+
+    /** A call that is refused: BAD, and nothing has changed. */
+    void refused(String call, Supplier<ActSurgery> made, ToIntFunction<ActSurgery> asked) {
+        leaves(call, made, asked, -2);
+    }
+
+    /** A call with this answer, after which nothing has changed. Each one has an object of its own. */
+    void leaves(String call, Supplier<ActSurgery> made, ToIntFunction<ActSurgery> asked, int want) {
+        ActSurgery x = made.get();
+        due(call, asked.applyAsInt(x), want);
+        String before = untouched.computeIfAbsent(made, m -> Snapshot.of(m.get()));
+        due("what is kept after " + call + " is as before (1 or 0)", Snapshot.of(x).equals(before) ? 1 : 0, 1);
     }
 
     /** Ends the test: with exit code 1, if an answer was wrong or none was asked for. */

@@ -70,7 +70,8 @@ public final class LanguageTest {
     private static void text(String source) {
         String code = source.replaceAll("(?s)/\\*.*?\\*/", " ").replaceAll("//[^\n]*", " ");
         Matcher m = Pattern.compile("\\b(package|import|throw|throws|try|catch|finally|synchronized|assert|native|"
-            + "volatile|transient|protected|Object|Exception|System\\.(?!arraycopy)\\w+|\\w+Exact)\\b|->|::").matcher(code);
+            + "volatile|transient|protected|Object|Exception|System\\.(?!arraycopy)\\w+|\\w+Exact)\\b|->|::")
+            .matcher(code);
         while (m.find()) {
             D.due("'" + m.group() + "' in the program", 1, 0);
         }
@@ -79,7 +80,7 @@ public final class LanguageTest {
         int news = 0;
         while (made.find()) {
             news++;
-            boolean atStart = made.group(1).matches("\\s*final \\S+ \\w+ = |\\s*private final \\S+ \\w+ = |\\s+\\w+ = ");
+            boolean atStart = made.group(1).matches("\\s*(private )?(final \\S+ )?\\w+ = ");
             D.due("'" + made.group().trim() + "' is made with the object", atStart ? 1 : 0, 1);
         }
         D.due("objects and arrays of one object are few", news <= 20 ? 1 : 0, 1);

@@ -21,6 +21,29 @@ final class Reference {
         }
     }
 
+    /** The same graph becomes the program's. */
+    void putIn(ActSurgery x) {
+        x.begin(n);
+        for (int p = 0; p < n; p++) {
+            int parents = parents(p);
+            x.parents(p, parents);
+            for (int values = 0; values <= parents; values++) {
+                if ((values & ~parents) == 0) {
+                    x.weight(p, values, weight[p][values]);
+                }
+            }
+            if (in(hidden, p)) {
+                x.hide(p, true);
+            }
+        }
+    }
+
+    ActSurgery made() {
+        ActSurgery x = new ActSurgery();
+        putIn(x);
+        return x;
+    }
+
     static boolean in(int set, int p) {
         return (set & (1 << p)) != 0;
     }

@@ -8,8 +8,8 @@ public final class ReferenceTest {
     public static void main(String[] args) {
         for (int round = 0; round < 240; round++) {
             int n = 1 + round % 6;
-            ActSurgery x = new ActSurgery();
-            Reference r = drawn(x, n, round % 4);
+            Reference r = drawn(n, round % 4);
+            Fresh x = new Fresh(r::made);
             counts(x, r);
             for (int a = 0; a < n; a++) {
                 places(x, r, a);
@@ -28,31 +28,24 @@ public final class ReferenceTest {
         D.end();
     }
 
-    /** A graph in x and the same in a Reference; density 0 has few ARROWS, 3 has many. */
-    private static Reference drawn(ActSurgery x, int n, int density) {
+    /** Density 0 has few ARROWS, 3 has all. */
+    private static Reference drawn(int n, int density) {
         Reference r = new Reference(n);
-        x.begin(n);
         for (int p = 0; p < n; p++) {
             for (int q = 0; q < p; q++) {
                 r.arrow[q][p] = R.nextInt(4) <= density;
             }
-            x.parents(p, r.parents(p));
             for (int values = 0; values < 1 << n; values++) {
-                if ((values & ~r.parents(p)) == 0) {
-                    int w = R.nextInt(5) == 0 ? R.nextInt(2) * 16 : R.nextInt(17);
-                    x.weight(p, values, w);
-                    r.weight[p][values] = w;
-                }
+                r.weight[p][values] = R.nextInt(5) == 0 ? R.nextInt(2) * 16 : R.nextInt(17);
             }
             if (R.nextInt(3) == 0) {
-                x.hide(p, true);
                 r.hidden |= 1 << p;
             }
         }
         return r;
     }
 
-    private static void counts(ActSurgery x, Reference r) {
+    private static void counts(Fresh x, Reference r) {
         int arrows = 0;
         int sure = 0;
         int[][] like = r.like();
@@ -65,48 +58,48 @@ public final class ReferenceTest {
                 }
             }
             sure += Integer.bitCount(sureFrom);
-            D.due("of SURE", x.of(p, 5), sureFrom);
+            D.due("of SURE", x.next().of(p, 5), sureFrom);
         }
         int[] due = {r.n, arrows, r.hidden, like[0][0], sure, r.clumps(), r.partedPairs()};
         for (int what = 0; what < due.length; what++) {
-            D.due("count " + what, x.count(what), due[what]);
+            D.due("count " + what, x.next().count(what), due[what]);
         }
     }
 
-    private static void places(ActSurgery x, Reference r, int p) {
+    private static void places(Fresh x, Reference r, int p) {
         int children = 0;
         for (int q = 0; q < r.n; q++) {
             children |= r.arrow[p][q] ? 1 << q : 0;
         }
         int[] due = {r.parents(p), children, r.after(p), r.before(p), r.clump(p)};
         for (int what = 0; what < due.length; what++) {
-            D.due("of " + what, x.of(p, what), due[what]);
+            D.due("of " + what, x.next().of(p, what), due[what]);
         }
-        D.due("told", x.told(p), Reference.in(r.hidden, p) ? -2 : r.told(p) ? 1 : 0);
+        D.due("told", x.next().told(p), Reference.in(r.hidden, p) ? -2 : r.told(p) ? 1 : 0);
     }
 
-    private static void pair(ActSurgery x, Reference r, int a, int b) {
-        D.due("parting", x.parting(a, b), r.parting(a, b));
+    private static void pair(Fresh x, Reference r, int a, int b) {
+        D.due("parting", x.next().parting(a, b), r.parting(a, b));
         boolean hidden = Reference.in(r.hidden, a) || Reference.in(r.hidden, b);
         for (int what = 0; what < 3; what++) {
-            D.due("telling " + what, x.telling(what, a, b), hidden ? -2 : r.telling(what, a, b));
+            D.due("telling " + what, x.next().telling(what, a, b), hidden ? -2 : r.telling(what, a, b));
         }
         for (int z = 0; z < 1 << r.n; z++) {
             boolean bad = (z & (1 << a | 1 << b)) != 0;
-            D.due("parted", x.parted(a, b, z), bad ? -2 : r.parted(a, b, z) ? 1 : 0);
+            D.due("parted", x.next().parted(a, b, z), bad ? -2 : r.parted(a, b, z) ? 1 : 0);
             if (R.nextInt(8) == 0) {
-                D.due("ways", x.ways(a, b, z), bad ? -2 : r.ways(a, b, z));
+                D.due("ways", x.next().ways(a, b, z), bad ? -2 : r.ways(a, b, z));
             }
             for (int what = 0; what < 3; what++) {
                 boolean refused = bad || hidden || (z & r.hidden) != 0;
-                D.due("tells " + what, x.tells(what, a, b, z), refused ? -2 : r.tells(what, a, b, z) ? 1 : 0);
+                D.due("tells " + what, x.next().tells(what, a, b, z), refused ? -2 : r.tells(what, a, b, z) ? 1 : 0);
             }
         }
     }
 
     private static void oddsOf(int n) {
-        ActSurgery x = new ActSurgery();
-        Reference r = drawn(x, n, R.nextInt(4));
+        Reference r = drawn(n, R.nextInt(4));
+        ActSurgery x = r.made();
         for (int i = 0; i < 6; i++) {
             ask(x, r, i % 2 == 1);
         }
@@ -134,8 +127,8 @@ public final class ReferenceTest {
 
     /** All 16 to the 6 DRAWS of one graph. */
     private static void oddsOfSix() {
-        ActSurgery x = new ActSurgery();
-        Reference r = drawn(x, 6, 2);
+        Reference r = drawn(6, 2);
+        ActSurgery x = r.made();
         ask(x, r, false);
         ask(x, r, true);
         ask(x, r, true);
@@ -144,21 +137,9 @@ public final class ReferenceTest {
     }
 
     private static void alikeOf(int n, int round) {
-        ActSurgery x = new ActSurgery();
-        Reference there = drawn(x, n, R.nextInt(4));
-        x.keep();
-        Reference here = there;
-        if (round % 4 == 0) {
-            here = drawn(x, 1 + R.nextInt(3), R.nextInt(4));
-        } else {
-            here = new Reference(n);
-            here.hidden = there.hidden;
-            for (int p = 0; p < n; p++) {
-                here.arrow[p] = there.arrow[p].clone();
-                here.weight[p] = there.weight[p].clone();
-            }
-            change(x, here);
-        }
+        Reference there = drawn(n, R.nextInt(4));
+        Reference here = round % 4 == 0 ? drawn(1 + R.nextInt(3), R.nextInt(4)) : changed(there);
+        ActSurgery x = new Sample(here, there).get();
         for (int what = 0; what < 4; what++) {
             D.due("alike " + what, x.alike(what), here.alike(there, what) ? 1 : 0);
         }
@@ -168,15 +149,17 @@ public final class ReferenceTest {
         }
     }
 
-    /** One WEIGHT becomes another, one PLACE is HIDDEN or not. */
-    private static void change(ActSurgery x, Reference r) {
+    /** One WEIGHT is another, one PLACE is HIDDEN or not. */
+    private static Reference changed(Reference from) {
+        Reference r = new Reference(from.n);
+        for (int p = 0; p < r.n; p++) {
+            r.arrow[p] = from.arrow[p].clone();
+            r.weight[p] = from.weight[p].clone();
+        }
         int p = R.nextInt(r.n);
         int values = R.nextInt(1 << r.n) & r.parents(p);
-        int w = R.nextInt(3) == 0 ? r.weight[p][values] : R.nextInt(17);
-        x.weight(p, values, w);
-        r.weight[p][values] = w;
-        int turned = R.nextInt(r.n);
-        r.hidden ^= 1 << turned;
-        x.hide(turned, Reference.in(r.hidden, turned));
+        r.weight[p][values] = R.nextInt(3) == 0 ? r.weight[p][values] : R.nextInt(17);
+        r.hidden = from.hidden ^ 1 << R.nextInt(r.n);
+        return r;
     }
 }

@@ -16,12 +16,13 @@ public final class RefusalTest {
         D.end();
     }
 
+    /** One object has all calls, one the same again, one only those that are to change something. */
     private static void run(int seed) {
         Random r = new Random(seed);
         ActSurgery x = new ActSurgery();
         ActSurgery again = new ActSurgery();
-        String state = state(x);
-        for (int call = 0; call < 100; call++) {
+        ActSurgery quiet = new ActSurgery();
+        for (int call = 0; call < 200; call++) {
             int which = r.nextInt(19);
             int[] a = new int[7];
             for (int i = 0; i < 7; i++) {
@@ -29,13 +30,14 @@ public final class RefusalTest {
             }
             int got = call(x, which, a);
             D.due("call " + which + " again", call(again, which, a), got);
-            String now = state(x);
-            boolean asks = which >= 4 && which < 16 || which == 18;
-            if (got == ActSurgery.BAD || asks) {
-                D.due("state after call " + which + " of seed " + seed, now.equals(state) ? 1 : 0, 1);
+            boolean changes = which < 4 || which == 16 || which == 17;
+            if (changes && got != -2) {
+                D.due("call " + which + " without what was refused", call(quiet, which, a), got);
             }
-            state = now;
         }
+        String state = Snapshot.of(x);
+        D.due("the same calls end alike", Snapshot.of(again).equals(state) ? 1 : 0, 1);
+        D.due("what was refused or asked changed nothing", Snapshot.of(quiet).equals(state) ? 1 : 0, 1);
     }
 
     private static int call(ActSurgery x, int which, int[] a) {
@@ -60,26 +62,5 @@ public final class RefusalTest {
             case 17: return x.keep();
             default: return x.alike(a[0]);
         }
-    }
-
-    /** All that can be known of this one and THE OTHER, which is left as it was. */
-    private static String state(ActSurgery x) {
-        StringBuilder s = new StringBuilder();
-        for (int side = 0; side < 2; side++) {
-            s.append(x.count(0)).append('/').append(x.count(2)).append(':');
-            for (int p = 0; p < x.count(0); p++) {
-                int parents = x.of(p, 0);
-                s.append(parents).append('=');
-                for (int values = 0; values <= parents; values++) {
-                    if ((values & ~parents) == 0) {
-                        int was = x.weight(p, values, 8);
-                        x.weight(p, values, was);
-                        s.append(was).append(',');
-                    }
-                }
-            }
-            x.swap();
-        }
-        return s.toString();
     }
 }
