@@ -25,6 +25,7 @@ public final class StateBoundsTest {
         keepOfLeastAndMost();
         refusedForTwoReasons();
         theLastCall();
+        allCallsToTheLast();
         D.end();
     }
 
@@ -330,10 +331,30 @@ public final class StateBoundsTest {
     /** "An object is used for at most 512 calls": the last of them is as good as the first. */
     private static void theLastCall() {
         ActSurgery x = new ActSurgery();
-        for (int call = 1; call < 511; call++) {
+        for (int call = 1; call < 510; call++) {
             x.begin(1 + call % 6);
         }
-        D.due("call 511", x.begin(6), 1);
-        D.due("call 512", x.parents(5, 31), 0);
+        D.due("call 510", x.begin(6), 6);
+        D.due("call 511", x.parents(5, 31), 0);
+        D.due("call 512", x.swap(), 1);
+    }
+
+    /** The same, of all methods but swap(): 2 calls, and 30 rounds of 17 that answer the same. */
+    private static void allCallsToTheLast() {
+        ActSurgery x = new ActSurgery();
+        x.begin(6);
+        x.keep();
+        String due = round(x);
+        for (int round = 2; round <= 30; round++) {
+            D.due("round " + round + " is as the first (1 or 0)", round(x).equals(due) ? 1 : 0, 1);
+        }
+    }
+
+    private static String round(ActSurgery x) {
+        int[] answers = {x.parents(5, 31), x.weight(5, 31, 16), x.hide(0, true), x.count(3), x.of(0, 5),
+            x.parted(0, 1, 32), x.parting(0, 1), x.ways(0, 1, 32), x.tells(0, 1, 5, 0), x.telling(0, 1, 5), x.told(1),
+            x.odds(32, 32, 1, 1, 2, 2, 0), x.would(32, 0, 1, 1, 2, 2, 1), x.effect(0, 5), x.swayed(0, 5), x.alike(2),
+            x.begin(6)};
+        return java.util.Arrays.toString(answers);
     }
 }
