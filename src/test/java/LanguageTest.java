@@ -29,7 +29,11 @@ import javax.tools.JavaCompiler;
 import javax.tools.StandardJavaFileManager;
 import javax.tools.ToolProvider;
 
-/** LANGUAGE.md, rule by rule, as far as the compiler's tree of the program tells; no rule is used up to its edge. */
+/**
+ * LANGUAGE.md, as far as the compiler's tree of the program tells. Often less is let pass than the rules allow: only
+ * what the program needs. That no call throws (rule 7) and how deep recursion goes (rule 8) the tree does not tell;
+ * RefusalTest and the bounds tests try the first.
+ */
 public final class LanguageTest extends TreePathScanner<Void, Void> {
     private static final Due D = new Due();
     private static final String PROGRAM = "src/main/java/ActSurgery.java";
